@@ -232,16 +232,15 @@ public final class IntegerPlan {
         reducePeak();
     }
 
+    // Corners on the skipped wall are looked at as well: each is a point like any other, so it does no harm.
     private void seekPeak(int c0, int c1, int c2, int skipped) {
         peakTop = 0;
         peakBottom = 0;
         for (int u = 0; u < wallCount; u++) {
             for (int v = u + 1; v < wallCount; v++) {
                 for (int w = v + 1; w < wallCount; w++) {
-                    if (u != skipped && v != skipped && w != skipped) {
-                        meetWalls(u, v, w);
-                        noteCorner(c0, c1, c2, skipped);
-                    }
+                    meetWalls(u, v, w);
+                    noteCorner(c0, c1, c2, skipped);
                 }
             }
         }
