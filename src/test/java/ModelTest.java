@@ -10,6 +10,7 @@ import java.util.Set;
 public final class ModelTest {
     private static final int RUNS = 300;
     private static final int CALLS = 512;
+    private static final int STYLES = 5;
 
     private static int wrong = 0;
     private static long seed;
@@ -27,7 +28,7 @@ public final class ModelTest {
             tops = new int[] {6, 6, 6};
             goal = new int[] {0, 0, 0};
             rules = new ArrayList<>();
-            int style = run % 4;
+            int style = run % STYLES;
             for (int call = 0; call < CALLS && wrong < 20; call++) {
                 step(run, style);
                 asked++;
@@ -49,14 +50,27 @@ public final class ModelTest {
         if (pick(0, 60) == 0) {
             return pick(0, 1) == 0 ? 10 : -10;
         }
-        return style == 0 ? pick(-9, 9) : style == 1 ? pick(-2, 2) : style == 2 ? pick(0, 9) : pick(-9, 3);
+        return switch (style) {
+            case 0 -> pick(-9, 9);
+            case 1 -> pick(-2, 2);
+            case 2 -> pick(0, 9);
+            case 3 -> pick(-9, 3);
+            // Near the edges, for the largest fractions.
+            default -> pick(0, 1) == 0 ? pick(-9, -7) : pick(7, 9);
+        };
     }
 
     private static int limit(int style) {
         if (pick(0, 40) == 0) {
             return pick(0, 1) == 0 ? 100 : -100;
         }
-        return style == 0 ? pick(-40, 60) : style == 1 ? pick(-4, 12) : style == 2 ? pick(-3, 99) : pick(-99, 10);
+        return switch (style) {
+            case 0 -> pick(-40, 60);
+            case 1 -> pick(-4, 12);
+            case 2 -> pick(-3, 99);
+            case 3 -> pick(-99, 10);
+            default -> pick(-60, 99);
+        };
     }
 
     private static void step(int run, int style) {
